@@ -29,6 +29,7 @@ public final class PromiseTest {
         run("15 day", PromiseTest::day);
         run("16 plan", PromiseTest::plan);
         run("16 plan: harm", PromiseTest::planHarm);
+        run("16 plan: as things are now", PromiseTest::planNow);
         run("17 planned", PromiseTest::planned);
         run("18 keep", PromiseTest::keep);
         run("19 make", PromiseTest::make);
@@ -376,6 +377,9 @@ public final class PromiseTest {
         fault(x, ";", 1, 0);
         fault(x, "sex", 1, 0);
         fault(x, "evens:1;", 1, 0);
+        fault(x, "evenz:1;", 1, 0);
+        fault(x, "even{:1;", 1, 4);
+        fault(x, "even`:1;", 1, 4);
         fault(x, "even 1:1;", 1, 5);
         fault(x, "even::1;", 1, 5);
         fault(x, "even:1 2;", 1, 7);
@@ -504,6 +508,65 @@ public final class PromiseTest {
         dueText("three classes", planned(x, 0), "0012");
         rule(x, "apart sex=0 from sex=0;apart sex=1 from month>0;");
         due("four alone in three classes", x.plan(0), -2);
+    }
+
+    /** What changes the best plan is seen at once, though the same day was asked for before. */
+    private static void planNow() {
+        ClassMaker x = new ClassMaker();
+        x.child(0, 1, 0);
+        x.child(0, 2, 0);
+        x.child(1, 3, 0);
+        rule(x, "even gift>5:1;friend:4;twins apart;even owed>0:9;");
+        due("plan", x.plan(0), 12);
+        due("a day to come", x.plan(1), NONE);
+        x.wish(0, 0, 1);
+        due("behind wish", x.plan(0), 8);
+        dueText("behind wish", planned(x, 0), "000");
+        x.bar(0, 1, true);
+        due("behind bar", x.plan(0), 12);
+        x.bar(0, 1, false);
+        due("behind bar", x.plan(0), 8);
+        x.twins(0, 1, true);
+        due("behind twins", x.plan(0), 12);
+        x.twins(0, 1, false);
+        due("behind twins", x.plan(0), 8);
+        x.mark(0, 2, 0, 9);
+        due("behind mark", x.plan(0), 8);
+        x.mark(0, 1, 0, 5);
+        due("behind mark", x.plan(0), 9);
+        x.not(0, 0, true);
+        dueText("behind not", planned(x, 0), "110");
+        x.classes(3);
+        dueText("behind classes", planned(x, 0), "110");
+        x.room(0, 0);
+        dueText("behind room", planned(x, 0), "111");
+        x.room(1, 2);
+        dueText("behind room", planned(x, 0), "112");
+        x.room(0, 14);
+        dueText("behind room", planned(x, 0), "110");
+        x.room(1, 14);
+        x.not(0, 0, false);
+        dueText("behind not", planned(x, 0), "000");
+        x.child(0, 1, 0);
+        due("behind child", x.plan(0), 13);
+        x.bar(2, 0, true);
+        x.bar(3, 0, true);
+        dueText("behind bar", planned(x, 0), "0011");
+        x.bar(2, 3, true);
+        dueText("behind bar", planned(x, 0), "0012");
+        x.classes(2);
+        due("behind classes", x.plan(0), -2);
+        x.classes(3);
+        due("behind classes", x.plan(0), 13);
+        x.late(0);
+        x.late(1);
+        x.late(2);
+        x.close();
+        due("behind close", x.plan(0), 4 * (2 + 2 + 1) + 1 + 9);
+        x.day(1);
+        due("behind day", x.plan(1), 30);
+        rule(x, "even:1;");
+        due("behind rule", x.plan(1), 1);
     }
 
     private static void planned() {
@@ -640,6 +703,12 @@ public final class PromiseTest {
         rule(x, "");
         due("late", x.late(1), 0);
         due("all", x.count(5), 5);
+        ClassMaker y = roomOf(3);
+        rule(y, "twins joined;");
+        y.twins(0, 1, true);
+        due("its twin isn't on it", y.late(1), 0);
+        y.not(0, 0, true);
+        due("its twin is where it can't be", y.late(0), -2);
     }
 
     private static void change() {
@@ -658,6 +727,20 @@ public final class PromiseTest {
         dueText("list", seats(x), "01100");
         rule(x, "least 4 sex=0;");
         refused(x, "none is allowed", () -> x.change(), -2);
+        ClassMaker z = roomOf(2);
+        z.not(0, 0, true);
+        z.late(0);
+        z.late(1);
+        z.not(0, 0, false);
+        dueText("the best plan", planned(z, 0), "00");
+        due("nothing to move", z.change(), 0);
+        dueText("the list is another one", seats(z), "10");
+        dueText("the best plan is as it was", planned(z, 0), "00");
+        ClassMaker nine = roomOf(9);
+        nine.make();
+        nine.bar(0, 8, true);
+        due("nine", nine.change(), 1);
+        dueText("list", seats(nine), "000000001");
         ClassMaker y = roomOf(10);
         rule(y, "sum month:1;");
         y.late(1);
@@ -667,7 +750,8 @@ public final class PromiseTest {
         y.bar(1, 9, true);
         due("of the fewest moves the least harm", y.change(), 1);
         dueText("list", seats(y), "-1-1-----0");
-        for (int c = 0; c < 9; c++) y.late(c);
+        for (int c = 0; c < 9; c++) due("late", y.late(c) == NONE, c == 1 || c == 3);
+        due("ten are on it", y.count(5), 10);
         refused(y, "ten", () -> y.change(), -3);
     }
 
@@ -841,6 +925,17 @@ public final class PromiseTest {
         due("not to a greater place", x.swaps(), 2);
         x.bar(5, 2, true);
         due("one isn't allowed", x.swaps(), 1);
+        rule(x, "apart month=1 from month=5;");
+        due("none is allowed by the list", x.allowed(0), 0);
+        due("but with the swap", x.swaps(), 1);
+        rule(x, "most 2 tag 0;apart month=1 from month=4;");
+        due("by the rule as it is now", x.swaps(), 0);
+        rule(x, "apart month=1 from month=3;");
+        due("by the rule as it is now", x.swaps(), 0);
+        rule(x, "apart month=5 from month<5;");
+        due("not even then", x.swaps(), 0);
+        rule(x, "apart month=3 from month=5;");
+        due("it parts those who were together", x.swaps(), 1);
     }
 
     private static void lie() {
@@ -876,6 +971,9 @@ public final class PromiseTest {
         y.wish(0, 1, 2);
         due("plan", y.plan(0), 0);
         due("the lie counts in terms", thrown(() -> y.lie(0, 0)), 3);
+        dueText("the best plan is by the true wishes", planned(y, 0), "000");
+        y.not(2, 0, true);
+        dueText("the best plan", planned(y, 0), "001");
     }
 
     private static void lonely() {

@@ -1543,7 +1543,7 @@ public final class ClassMaker {
                 return;
             }
             for (int k = 0; k < search.facts.classCount && !search.isPerfect(); k++) {
-                if (search.mayJoin(at, k)) {
+                if (!search.isRepeat(k) && search.mayJoin(at, k)) {
                     search.put(at, k, 1);
                     assign(search, at + 1);
                     search.put(at, k, -1);
@@ -1554,6 +1554,19 @@ public final class ClassMaker {
         /** No later plan can be better than one without moves and harm. */
         private boolean isPerfect() {
             return found && bestMoves == 0 && bestHarm == 0;
+        }
+
+        /** With an empty class like an empty one before it all plans are as good as ones that came before. */
+        private boolean isRepeat(int k) {
+            if (groups[k] != 0 || stays[0] != NONE) {
+                return false;
+            }
+            for (int before = 0; before < k; before++) {
+                if (groups[before] == 0 && facts.room[before] == facts.room[k] && facts.nots[before] == facts.nots[k]) {
+                    return true;
+                }
+            }
+            return false;
         }
 
         private int movesOf(int at, int k) {
