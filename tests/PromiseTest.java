@@ -518,7 +518,6 @@ public final class PromiseTest {
         x.child(1, 3, 0);
         rule(x, "even gift>5:1;friend:4;twins apart;even owed>0:9;");
         due("plan", x.plan(0), 12);
-        due("a day to come", x.plan(1), NONE);
         x.wish(0, 0, 1);
         due("behind wish", x.plan(0), 8);
         dueText("behind wish", planned(x, 0), "000");
@@ -563,6 +562,7 @@ public final class PromiseTest {
         x.late(2);
         x.close();
         due("behind close", x.plan(0), 4 * (2 + 2 + 1) + 1 + 9);
+        due("a day to come", x.plan(1), NONE);
         x.day(1);
         due("behind day", x.plan(1), 30);
         rule(x, "even:1;");
@@ -736,6 +736,12 @@ public final class PromiseTest {
         due("nothing to move", z.change(), 0);
         dueText("the list is another one", seats(z), "10");
         dueText("the best plan is as it was", planned(z, 0), "00");
+        z.close();
+        z.not(0, 0, true);
+        z.late(0);
+        z.not(0, 0, false);
+        due("one child stays", z.change(), 0);
+        dueText("list", seats(z), "1-");
         ClassMaker nine = roomOf(9);
         nine.make();
         nine.bar(0, 8, true);
