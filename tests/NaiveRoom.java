@@ -269,7 +269,7 @@ public final class NaiveRoom {
     public int holds(int s, int which, int child, int known) {
         if (!in(s, 0, statements.size() - 1) || !in(which, 0, 1) || !kid(child) || !in(known, 0, today)) return NONE;
         List<Term> terms = which == 0 ? statements.get(s).first : statements.get(s).second;
-        if (terms == null || terms.isEmpty()) return NONE;
+        if (terms == null) return NONE;
         return hold(terms, child, known) ? 1 : 0;
     }
 

@@ -419,14 +419,18 @@ public final class PromiseTest {
         ClassMaker x = new ClassMaker();
         x.child(0, 6, 0b10000001);
         x.child(1, 7, 0);
-        rule(x, "even month>6 and not sex=0:1;apart tag 7 from not tag 0;sum gift:1;most 1 gift=10;friend:1;least 1 wishes>0 and named<1;even:1;");
+        rule(x, "even month>6 and not sex=0:1;apart tag 7 from not tag 0;sum gift:1;most 1 gift=10;friend:1;least 1 wishes>0 and named<1;even:1;regret:1;twins free;alone sex=1:1;");
         int[][] want = {{0, 0, 0, 0}, {0, 0, 1, 1}, {1, 0, 0, 1}, {1, 0, 1, 0}, {1, 1, 0, 0}, {1, 1, 1, 1}, {0, 1, 0, NONE}, {2, 0, 0, NONE},
-            {4, 0, 0, NONE}, {3, 0, 0, 0}, {6, 0, 0, NONE}, {7, 0, 0, NONE}, {-1, 0, 0, NONE}, {0, 2, 0, NONE}, {0, -1, 0, NONE},
-            {0, 0, 2, NONE}, {0, 0, -1, NONE}};
+            {4, 0, 0, NONE}, {3, 0, 0, 0}, {3, 1, 0, NONE}, {5, 1, 0, NONE}, {7, 0, 0, NONE}, {8, 0, 0, NONE}, {9, 0, 0, 0}, {9, 0, 1, 1},
+            {9, 1, 1, NONE}, {10, 0, 0, NONE}, {-1, 0, 0, NONE}, {0, 2, 0, NONE}, {0, -1, 0, NONE}, {0, 0, 2, NONE}, {0, 0, -1, NONE},
+            // An even without terms holds for all children, but has none behind from, and holds for no others.
+            {6, 0, 0, 1}, {6, 0, 1, 1}, {6, 1, 0, NONE}, {6, 2, 0, NONE}, {6, 0, 2, NONE}, {6, 0, -1, NONE}};
         for (int[] w : want) due("holds" + Arrays.toString(w), x.holds(w[0], w[1], w[2], 0), w[3]);
         due("a day to come", x.holds(0, 0, 0, 1), NONE);
         due("a day below 0", x.holds(0, 0, 0, -1), NONE);
+        due("a day to come, without terms", x.holds(6, 0, 0, 1), NONE);
         x.day(2);
+        due("on an earlier day, without terms", x.holds(6, 0, 0, 1), 1);
         x.mark(0, 0, 0, 9);
         x.mark(0, 1, 0, 3);
         due("gift as known on day 2", x.holds(3, 0, 0, 2), 1);

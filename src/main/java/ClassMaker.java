@@ -192,7 +192,7 @@ public final class ClassMaker {
         if (!within(s, 0, rules.count - 1) || !within(which, 0, 1) || !facts.has(child) || !isDay(known)) {
             return NONE;
         }
-        if (rules.terms[s * 2 + which] == 0) {
+        if (!rules.takesTerms(s, which)) {
             return NONE;
         }
         judge.prepare(rules, known);
@@ -862,6 +862,18 @@ public final class ClassMaker {
         void clear() {
             count = 0;
             Arrays.fill(terms, 0);
+        }
+
+        /** Whether there is a place for terms there; an even has one for its first terms, told or not. */
+        boolean takesTerms(int s, int which) {
+            switch (kinds[s]) {
+                case APART: return true;
+                case EVEN:
+                case ALONE:
+                case MOST:
+                case LEAST: return which == 0;
+                default: return false;
+            }
         }
 
         int twinsHow() {
