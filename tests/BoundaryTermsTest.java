@@ -13,6 +13,7 @@ public final class BoundaryTermsTest {
         ruleFaults();
         ruleTerms();
         soundness();
+        lastClass();
         harm();
         bestPlan();
         byHand();
@@ -820,6 +821,107 @@ public final class BoundaryTermsTest {
             classes 3
             rule 'least 1 sex=0;'
             allowed 1 -> 1
+            """);
+    }
+
+    /** In the last CLASS as in the first: all CHILDREN of a LIST are in CLASS 2. */
+    private static void lastClass() {
+        String three = """
+            3 * child 0 1 0
+            classes 3
+            room 0 0
+            room 1 0
+            make
+            count 12 -> 3
+            """;
+        test("Terms 3, 'SOUND': no CLASS, nor the last one, has more than its ROOM, a BAR, a NOT", three, """
+            allowed 0 -> 1
+            room 2 3
+            allowed 0 -> 1
+            room 2 2
+            allowed 0 -> 0
+            room 2 14
+            bar 1 2 true
+            allowed 0 -> 0
+            bar 1 2 false
+            not 2 1 true
+            allowed 0 -> 1
+            not 2 2 true
+            allowed 0 -> 0
+            """);
+        test("Terms 3, 'SOUND': no CLASS, nor the last one, has TWINS apart, whom apart parts, more than most", three, """
+            twins 1 2 true
+            rule 'twins apart;'
+            allowed 0 -> 0
+            rule 'twins joined;'
+            allowed 0 -> 1
+            rule 'apart sex=0 from month=1;'
+            allowed 0 -> 0
+            rule 'most 3 sex=0;'
+            allowed 0 -> 1
+            rule 'most 2 sex=0;'
+            allowed 0 -> 0
+            rule 'least 3 sex=0;'
+            allowed 1 -> 6
+            """);
+        test("Terms 3, 'HARM': of no CLASS less than of others", three, """
+            rule 'even:1;sum month:1;friend:1;alone sex=0:1;regret:1;'
+            harm 0 -> 3
+            harm 1 -> 3
+            harm 2 -> 3
+            harm 3 -> 0
+            word 0 0 0
+            word 1 0 0
+            word 2 0 0
+            close -> 3
+            late 0 -> 2
+            harm 3 -> 1
+            harm 4 -> 0
+            late 2 -> 2
+            harm 3 -> 0
+            harm 4 -> 1
+            late 1 -> 2
+            harm 4 -> 3
+            harm 2 -> 6
+            """);
+        test("Terms 3, 'HARM, alone': one in each of three CLASSES", """
+            3 * child 0 1 0
+            classes 3
+            rule 'alone sex=0:9;even:99;'
+            make -> 27
+            harm 0 -> 27
+            """);
+        test("Terms 3, of 14 CHILDREN the last two", """
+            14 * child 0 1 0
+            rule 'friend:1;twins apart;regret:9;'
+            wish 12 1 13
+            wish 13 2 12
+            make -> 12
+            served 12 -> 1
+            served 13 -> 2
+            word 12 0 0
+            word 13 0 0
+            close -> 12
+            regret 12 13 -> 1
+            make -> 26
+            classOf 12 -> 0
+            classOf 13 -> 1
+            harm 0 -> 26
+            swaps -> 0
+            wish 12 0 0
+            wish 12 1 NONE
+            wish 0 0 12
+            wish 13 2 1
+            make
+            bar 12 13 true
+            allowed 0 -> 1
+            ring 12 -> 0
+            ring 13 -> 13
+            lonely 10 -> 13
+            lonely 11 -> NONE
+            day 1
+            was 13 0 -> 1
+            was 12 0 -> 0
             """);
     }
 
@@ -1633,14 +1735,65 @@ public final class BoundaryTermsTest {
             word 2 5 0
             word 3 0 5
             word 4 2 3
+            word 5 4 0
             close
             regret 0 1 -> 1
+            regret 0 5 -> 1
+            regret 1 5 -> 1
+            regret 2 5 -> 0
+            regret 3 5 -> 0
+            regret 4 5 -> 0
             regret 0 2 -> 0
             regret 0 3 -> 0
             regret 0 4 -> 0
-            regret 0 5 -> 0
             regret 1 2 -> 0
             regret 2 3 -> 0
+            """);
+        test("Terms 4, 'both have WORDS': of one who has none it isn't", """
+            3 * child 0 1 0
+            make
+            word 1 0 0
+            close
+            regret 0 1 -> 0
+            regret 1 2 -> 0
+            make
+            word 0 0 0
+            word 2 0 0
+            close
+            regret 0 2 -> 1
+            regret 0 1 -> 0
+            regret 1 2 -> 0
+            """);
+        test("Terms 4, 'REGRET of each two of one CLASS': of each CLASS, and of all of the first and the last of 14", """
+            14 * child 0 1 0
+            classes 3
+            not 0 0 true
+            not 1 0 true
+            not 2 0 true
+            not 2 1 true
+            not 13 0 true
+            not 13 1 true
+            make
+            classOf 1 -> 1
+            classOf 2 -> 2
+            classOf 12 -> 0
+            word 0 2 2
+            word 1 2 2
+            word 2 2 2
+            word 3 2 2
+            word 12 2 2
+            word 13 2 2
+            close -> 14
+            regret 0 1 -> 1
+            regret 2 13 -> 1
+            regret 13 2 -> 1
+            regret 3 12 -> 1
+            regret 0 13 -> 0
+            regret 2 3 -> 0
+            regret 12 13 -> 0
+            of 13 3 -> 1
+            of 0 3 -> 1
+            of 13 11 -> NONE
             """);
         test("Terms 4, 'the last told counts'", """
             2 * child 0 1 0
