@@ -678,6 +678,16 @@ public final class BoundaryCallsTest {
             planned 0 0 -> NONE
             ! keep -> -3
             """);
+        test("Promise 16, 'NONE: no such DAY', of more than nine, too", """
+            10 * child 0 1 0
+            plan -1 -> NONE
+            plan 0 -> -3
+            plan 1 -> NONE
+            plan MAX -> NONE
+            day 1 -> 1
+            plan 1 -> -3
+            plan 2 -> NONE
+            """);
         test("Promise 17, 'NONE: no such CHILD'", """
             planned 0 0 -> NONE
             3 * child 0 1 0
@@ -722,6 +732,23 @@ public final class BoundaryCallsTest {
             8 * child 0 1 0
             ! keep -> -3
             count 5 -> 2
+            """);
+        test("Promise 18, 'THE LIST is the best PLAN as known on the DAY at hand': not on one ahead", """
+            2 * child 0 1 0
+            rule 'sum gift:1;'
+            keep -> 0
+            classOf 1 -> 1
+            day 1 -> 1
+            child 0 1 0
+            mark 0 0 0 9
+            mark 0 1 0 1
+            mark 0 2 0 5
+            keep -> 5
+            classOf 0 -> 0
+            classOf 1 -> 0
+            classOf 2 -> 1
+            plan 0 -> 0
+            planned 0 1 -> 1
             """);
         test("Promise 18, 'THE LIST is the best PLAN as known on the DAY at hand': of nine", """
             9 * child 0 1 0

@@ -1225,7 +1225,18 @@ public final class BoundaryTermsTest {
             steps -> 0
             count 10 -> 4
             """);
-        test("Terms 3, 'to move a CHILD to another CLASS (CHILD by CHILD, CLASS by CLASS), then to swap two': a move of the last goes ahead of a swap of the first", """
+        test("Terms 3, 'to move a CHILD to another CLASS (CHILD by CHILD, CLASS by CLASS), then to swap two': a move of the second goes ahead of a swap of the first", """
+            child 0 4 0
+            child 0 3 0
+            child 0 8 0
+            rule 'sum month:1;even:1;'
+            make -> 2
+            steps -> 1
+            classOf 0 -> 0
+            classOf 1 -> 0
+            classOf 2 -> 1
+            """);
+        test("Terms 3, 'the first STEP behind which LACK is less': of the second CHILD, as that of the first is none", """
             child 1 1 0
             child 0 1 0
             child 0 1 0
@@ -1274,6 +1285,56 @@ public final class BoundaryTermsTest {
             make -> 2
             steps -> 2
             classOf 0 -> 0
+            classOf 1 -> 0
+            classOf 2 -> 0
+            classOf 3 -> 1
+            """);
+        test("Terms 3, '(CHILD by CHILD, CLASS by CLASS)': the first CHILD to the last CLASS ahead of the second one to CLASS 1", """
+            3 * child 0 1 0
+            classes 3
+            not 0 1 true
+            rule 'least 2 sex=0;'
+            make -> -4
+            steps -> 1
+            classOf 0 -> 2
+            classOf 1 -> 0
+            classOf 2 -> 0
+            """);
+        test("Terms 3, '(by the lesser, then the other one)': the first with the last ahead of the second with the third", """
+            child 0 7 0
+            child 0 3 0
+            child 0 2 0
+            child 0 6 0
+            rule 'sum month:1;'
+            make -> 0
+            steps -> 2
+            classOf 0 -> 1
+            classOf 1 -> 0
+            classOf 2 -> 1
+            classOf 3 -> 0
+            """);
+        test("Terms 3, 'the first STEP': not the one that brings the most", """
+            child 0 2 0
+            child 0 4 0
+            child 0 1 0
+            child 0 6 0
+            rule 'sum month:1;even:9;'
+            make -> 1
+            steps -> 2
+            classOf 0 -> 0
+            classOf 1 -> 0
+            classOf 2 -> 1
+            classOf 3 -> 1
+            """);
+        test("Terms 3, 'then again and again the first STEP': behind a STEP of the second CHILD one of the first", """
+            child 0 3 0
+            child 0 5 0
+            child 0 3 0
+            child 0 7 0
+            rule 'sum month:1;'
+            make -> 2
+            steps -> 2
+            classOf 0 -> 1
             classOf 1 -> 0
             classOf 2 -> 0
             classOf 3 -> 1
@@ -1347,6 +1408,22 @@ public final class BoundaryTermsTest {
             mark 0 0 0 9
             mark 0 1 0 1
             harm 2 -> 1
+            harm NONE -> 3
+            """);
+        test("Terms 3, 'HARM, LACK of THE LIST ... as known on the DAY at hand': SOUND and LACK, too", """
+            2 * child 0 1 0
+            late 0
+            late 1
+            rule 'most 1 gift=5;'
+            allowed 0 -> 0
+            rule 'least 1 gift=10;'
+            allowed 1 -> 2
+            day 1
+            mark 0 0 0 9
+            mark 0 1 0 1
+            allowed 1 -> 1
+            rule 'most 1 gift=5;'
+            allowed 0 -> 1
             """);
         test("Terms 3, 'TO PLACE: ... ALLOWED and of the least HARM, the lesser first'", """
             5 * child 0 1 0
